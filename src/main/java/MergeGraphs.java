@@ -234,7 +234,7 @@ public final class MergeGraphs {
     }
 
     private static boolean isIn(long set, int term) {
-        return (set >> term & 1) != 0;
+        return (set & 1L << term) != 0;
     }
 
     private static int renamed(int number, int[] row) {
@@ -652,7 +652,7 @@ public final class MergeGraphs {
             for (int turn = 0; turn < MOST_TURNS && waiting != 0; turn++) {
                 int i = lowestOf(waiting);
                 waiting &= waiting - 1;
-                boolean single = (choice[i] & choice[i] - 1) == 0;
+                boolean single = (choice[i] & (choice[i] - 1)) == 0;
                 if (choice[i] != 0 && (wide || single)) {
                     int narrowed = narrowLinked(choice, i);
                     if (narrowed >= 0 && single && keepsApart) {
@@ -784,7 +784,7 @@ public final class MergeGraphs {
             if (hasBest && !isBefore(row, best, source.count())) {
                 return;
             }
-            if ((left & left - 1) == 0 || given >= NODES) {
+            if ((left & (left - 1)) == 0 || given >= NODES) {
                 keepRow();
                 return;
             }

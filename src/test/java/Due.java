@@ -49,22 +49,22 @@ final class Due {
     /** The facts of a graph, read through its face. */
     static String facts(MergeGraphs x, int graph) {
         StringBuilder text = new StringBuilder();
-        int count = x.size(graph, 0);
-        for (int k = 0; k < count; k++) {
-            int number = x.fact(graph, k);
-            text.append(number / 4096).append(' ').append(number / 64 % 64).append(' ').append(number % 64).append("; ");
+        for (int k = 0; k < x.size(graph, 0); k++) {
+            text.append(factText(x.fact(graph, k)));
         }
         return text.toString().trim();
     }
 
     static String form(MergeGraphs x, int graph) {
         StringBuilder text = new StringBuilder();
-        int count = x.size(graph, 0);
-        for (int k = 0; k < count; k++) {
-            int number = x.form(graph, k);
-            text.append(number / 4096).append(' ').append(number / 64 % 64).append(' ').append(number % 64).append("; ");
+        for (int k = 0; k < x.size(graph, 0); k++) {
+            text.append(factText(x.form(graph, k)));
         }
         return text.toString().trim();
+    }
+
+    private static String factText(int number) {
+        return number / 4096 + " " + number / 64 % 64 + " " + number % 64 + "; ";
     }
 
     static void dueText(String what, String want, String got) {
@@ -81,13 +81,6 @@ final class Due {
                 String[] words = fact.trim().split(" +");
                 x.put(graph, Integer.parseInt(words[0]), Integer.parseInt(words[1]), Integer.parseInt(words[2]));
             }
-        }
-    }
-
-    static void empty(MergeGraphs x, int graph) {
-        while (x.size(graph, 0) > 0) {
-            int number = x.fact(graph, 0);
-            x.drop(graph, number / 4096, number / 64 % 64, number % 64);
         }
     }
 
