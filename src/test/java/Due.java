@@ -49,7 +49,8 @@ final class Due {
     /** The facts of a graph, read through its face. */
     static String facts(MergeGraphs x, int graph) {
         StringBuilder text = new StringBuilder();
-        for (int k = 0; k < x.size(graph, 0); k++) {
+        int count = x.size(graph, 0);
+        for (int k = 0; k < count; k++) {
             text.append(factText(x.fact(graph, k)));
         }
         return text.toString().trim();
@@ -57,7 +58,8 @@ final class Due {
 
     static String form(MergeGraphs x, int graph) {
         StringBuilder text = new StringBuilder();
-        for (int k = 0; k < x.size(graph, 0); k++) {
+        int count = x.size(graph, 0);
+        for (int k = 0; k < count; k++) {
             text.append(factText(x.form(graph, k)));
         }
         return text.toString().trim();

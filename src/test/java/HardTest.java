@@ -99,7 +99,7 @@ public final class HardTest {
         Due.dueText("three pairs", "40 1 41; 41 1 40; 42 1 43; 43 1 42; 44 1 45; 45 1 44;", Due.form(x, 2));
     }
 
-    /** A run of calls shares one room, so calls make nothing: measured as bytes over many calls. */
+    /** A run of calls shares one room, so calls make nothing: measured as bytes over nearly 512 calls. */
     private static void noObjects() {
         MergeGraphs x = new MergeGraphs();
         Due.fill(x, 0, "1 1 40; 40 1 41; 41 1 42; 42 1 40; 2 1 43; 43 1 44; 44 1 43; 1 1 1");
@@ -108,11 +108,11 @@ public final class HardTest {
             (com.sun.management.ThreadMXBean) java.lang.management.ManagementFactory.getThreadMXBean();
         threads.getCurrentThreadAllocatedBytes();
         long before = threads.getCurrentThreadAllocatedBytes();
-        for (int i = 0; i < 1000; i++) {
+        for (int i = 0; i < 21; i++) {
             allCalls(x);
         }
         long made = threads.getCurrentThreadAllocatedBytes() - before;
-        Due.dueTrue("calls make no objects, but made bytes: " + made, made < 10_000);
+        Due.dueTrue("calls make no objects, but made bytes: " + made, made < 1_000);
     }
 
     private static void allCalls(MergeGraphs x) {
