@@ -1,6 +1,6 @@
 /** What the tests of the boundary cases share: values beyond the ends, an object with all in it, refused calls. */
 final class Edge {
-    /** Makes an object ready for a call; it counts as calls what it calls. */
+    /** Makes a new object ready for the call that is tested. */
     interface Setup {
         void make(MergeGraphs x);
     }
@@ -12,6 +12,7 @@ final class Edge {
     static final int[] NO_GRAPHS = {-1, 6, Integer.MIN_VALUE, Integer.MAX_VALUE};
     static final int FIRST_GRAPH = 0;
     static final int LAST_GRAPH = 5;
+    /** How many calls rich() makes. */
     static final int RICH_CALLS = 41;
     /** Graph 4 of a rich object is full, graph 5 empty. */
     static final int FULL = 4;

@@ -2,7 +2,7 @@
 public final class FactsEdgeTest {
     private static final int MIN = Integer.MIN_VALUE;
     private static final int MAX = Integer.MAX_VALUE;
-    /** The last ones wrap round to 0 when they are multiplied by 4096, or give another fact's number by 64. */
+    /** 4096 (for verbs 64) times the last two wraps round to 0; 64 would carry over into the place before. */
     private static final int[] NO_TERMS = {-1, 46, 63, 64, MIN, MAX, 1 << 20, -(1 << 20)};
     private static final int[] NO_VERBS = {-1, 40, 45, 63, 64, MIN, MAX, 1 << 26, -(1 << 26)};
     private static final int[] ENDS_OF_TERMS = {0, 39, 40, 45};
@@ -40,8 +40,8 @@ public final class FactsEdgeTest {
         Edge.dueIdle("nothing goes", -1, FactsEdgeTest::nothing, x -> x.part(0, 0));
         Edge.dueIdle("nothing comes", -1, FactsEdgeTest::nothing, x -> x.part(1, 0));
         MergeGraphs used = Edge.made(Edge::rich);
-        Due.dueText("used objects leave new ones alone", Edge.stateOf(Edge.made(FactsEdgeTest::nothing)),
-            "[] [] [] [] [] [] clashes goes comes ");
+        Due.dueText("used objects leave new ones alone", "[] [] [] [] [] [] clashes goes comes ",
+            Edge.stateOf(new MergeGraphs()));
         Due.dueText("and new ones leave them alone", Edge.stateOf(Edge.made(Edge::rich)), Edge.stateOf(used));
     }
 
