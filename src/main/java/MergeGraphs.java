@@ -238,11 +238,13 @@ public final class MergeGraphs {
     }
 
     private static int renamed(int number, int[] row) {
-        int subject = subjectOf(number);
-        int object = objectOf(number);
-        int newSubject = isNode(subject) ? row[subject - NAMES] : subject;
-        int newObject = isNode(object) ? row[object - NAMES] : object;
-        return numberOf(newSubject, verbOf(number), newObject);
+        return numberOf(putFor(subjectOf(number), row), verbOf(number), putFor(objectOf(number), row));
+    }
+
+    /** A row has a term for each node; names stay what they are. */
+    private static int putFor(int term, int[] row) {
+        int i = term - NAMES;
+        return i >= 0 && i < row.length ? row[i] : term;
     }
 
     private static boolean isBefore(int[] row, int[] other, int length) {
@@ -314,7 +316,7 @@ public final class MergeGraphs {
         clashCount = 0;
         for (int code = 0; code < 2 * TERMS; code++) {
             long ofSide = (code & 1) == 0 ? ofFirst : ofSecond;
-            if (isIn(ofSide, code >> 1)) {
+            if (isIn(ofSide, code >> 1) && clashCount < clashes.length) {
                 clashes[clashCount] = code;
                 clashCount++;
             }
@@ -532,17 +534,26 @@ public final class MergeGraphs {
             }
         }
 
-        private static int cell(int verb, int term) {
-            return verb * TERMS + term;
+        private static long marked(long[] table, int verb, int term) {
+            int cell = verb * TERMS + term;
+            return cell >= 0 && cell < table.length ? table[cell] : 0;
+        }
+
+        private static void setMarked(long[] table, int verb, int term, long set) {
+            int cell = verb * TERMS + term;
+            if (cell >= 0 && cell < table.length) {
+                table[cell] = set;
+            }
         }
 
         private void mark(Graph target) {
             for (int i = 0; i < target.count(); i++) {
                 int number = target.at(i);
                 int subject = subjectOf(number);
+                int verb = verbOf(number);
                 int object = objectOf(number);
-                objects[cell(verbOf(number), subject)] |= 1L << object;
-                subjects[cell(verbOf(number), object)] |= 1L << subject;
+                setMarked(objects, verb, subject, marked(objects, verb, subject) | 1L << object);
+                setMarked(subjects, verb, object, marked(subjects, verb, object) | 1L << subject);
             }
         }
 
@@ -550,8 +561,8 @@ public final class MergeGraphs {
         private void unmark(Graph target) {
             for (int i = 0; i < target.count(); i++) {
                 int number = target.at(i);
-                objects[cell(verbOf(number), subjectOf(number))] = 0;
-                subjects[cell(verbOf(number), objectOf(number))] = 0;
+                setMarked(objects, verbOf(number), subjectOf(number), 0);
+                setMarked(subjects, verbOf(number), objectOf(number), 0);
             }
         }
 
@@ -579,16 +590,23 @@ public final class MergeGraphs {
             int verb = verbOf(number);
             int object = objectOf(number);
             if (!isNode(subject) && !isNode(object)) {
-                return isIn(objects[cell(verb, subject)], object);
+                return isIn(marked(objects, verb, subject), object);
             }
             if (!isNode(subject)) {
-                return limit(choice, object - NAMES, objects[cell(verb, subject)]);
+                return limit(choice, object - NAMES, marked(objects, verb, subject));
             }
             if (!isNode(object)) {
-                return limit(choice, subject - NAMES, subjects[cell(verb, object)]);
+                return limit(choice, subject - NAMES, marked(subjects, verb, object));
             }
             if (subject == object) {
                 return limit(choice, subject - NAMES, loops(verb));
+            }
+            return addLink(number);
+        }
+
+        private boolean addLink(int number) {
+            if (linkCount >= links.length) {
+                return false;
             }
             links[linkCount] = number;
             linkCount++;
@@ -596,14 +614,13 @@ public final class MergeGraphs {
         }
 
         private static boolean limit(long[] choice, int i, long set) {
-            choice[i] &= set;
-            return choice[i] != 0;
+            return keepOnly(choice, i, set) != NONE;
         }
 
         private long loops(int verb) {
             long set = 0;
             for (int term = 0; term < TERMS; term++) {
-                set |= objects[cell(verb, term)] & 1L << term;
+                set |= marked(objects, verb, term) & 1L << term;
             }
             return set;
         }
@@ -652,11 +669,12 @@ public final class MergeGraphs {
             for (int turn = 0; turn < MOST_TURNS && waiting != 0; turn++) {
                 int i = lowestOf(waiting);
                 waiting &= waiting - 1;
-                boolean single = (choice[i] & (choice[i] - 1)) == 0;
-                if (choice[i] != 0 && (wide || single)) {
-                    int narrowed = narrowLinked(choice, i);
+                long own = i < choice.length ? choice[i] : 0;
+                boolean single = (own & (own - 1)) == 0;
+                if (own != 0 && (wide || single)) {
+                    int narrowed = narrowLinked(choice, i, own);
                     if (narrowed >= 0 && single && keepsApart) {
-                        narrowed |= narrowOthers(choice, i);
+                        narrowed |= narrowOthers(choice, i, own);
                     }
                     if (narrowed < 0) {
                         return false;
@@ -668,15 +686,15 @@ public final class MergeGraphs {
         }
 
         /** Which nodes have less choice now; NONE (all bits set, so that | keeps it) if one has none. */
-        private int narrowLinked(long[] choice, int i) {
+        private int narrowLinked(long[] choice, int i, long own) {
             int narrowed = 0;
-            for (int k = 0; k < linkCount; k++) {
+            for (int k = 0; k < linkCount && k < links.length; k++) {
                 int subject = subjectOf(links[k]) - NAMES;
                 int object = objectOf(links[k]) - NAMES;
                 if (subject == i) {
-                    narrowed |= keepOnly(choice, object, reach(objects, verbOf(links[k]), choice[i]));
+                    narrowed |= keepOnly(choice, object, reach(objects, verbOf(links[k]), own));
                 } else if (object == i) {
-                    narrowed |= keepOnly(choice, subject, reach(subjects, verbOf(links[k]), choice[i]));
+                    narrowed |= keepOnly(choice, subject, reach(subjects, verbOf(links[k]), own));
                 }
                 if (narrowed < 0) {
                     return NONE;
@@ -685,18 +703,18 @@ public final class MergeGraphs {
             return narrowed;
         }
 
-        private static int narrowOthers(long[] choice, int i) {
+        private static int narrowOthers(long[] choice, int i, long own) {
             int narrowed = 0;
-            for (int other = 0; other < NODES; other++) {
+            for (int other = 0; other < choice.length; other++) {
                 if (other != i && choice[other] != 0) {
-                    narrowed |= keepOnly(choice, other, ~choice[i]);
+                    narrowed |= keepOnly(choice, other, ~own);
                 }
             }
             return narrowed;
         }
 
         private static int keepOnly(long[] choice, int i, long set) {
-            long kept = choice[i] & set;
+            long kept = i >= 0 && i < choice.length ? choice[i] & set : 0;
             if (kept == 0) {
                 return NONE;
             }
@@ -711,7 +729,7 @@ public final class MergeGraphs {
             long reached = 0;
             long left = from;
             for (int tries = Long.bitCount(left); tries > 0; tries--) {
-                reached |= table[cell(verb, Long.bitCount((left & -left) - 1))];
+                reached |= marked(table, verb, Long.bitCount((left & -left) - 1));
                 left &= left - 1;
             }
             return reached;
